@@ -439,10 +439,10 @@ public final class PromisesTest {
         }
         AuditoriumKeys early = new AuditoriumKeys();
         early.join(3);
-        early.pass(5);
-        early.join(5);
+        early.pass(1);
+        early.join(1);
         due("9 the earlier minute, with the draw 7", early.queueAt(0), 3);
-        due("9 the later minute, with the draw 0", early.queueAt(1), 5);
+        due("9 the later minute, with the draw 0", early.queueAt(1), 1);
     }
 
     // ---- Promise 10
@@ -677,6 +677,14 @@ public final class PromisesTest {
         refused("12 paid for", x, STATE, () -> x.pay(0, 1));
         due("12 what was paid for does not lapse", x.pass(500), 0);
         due("12 SOLD for good", x.state(0), SOLD);
+        take(x, 0, 10, 2, NONE);
+        x.pay(0, 80);
+        x.letGo(0);
+        refused("12 let go", x, STATE, () -> x.pay(0, 1));
+        take(x, 0, 10, 2, NONE);
+        x.pay(0, 80);
+        x.pass(15);
+        refused("12 lapsed", x, STATE, () -> x.pay(0, 100));
         paysMuch();
     }
 
