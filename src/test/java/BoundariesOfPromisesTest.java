@@ -566,6 +566,20 @@ public final class BoundariesOfPromisesTest {
         Runs.opened(promise, "`price`: 1 to 10000", "buy(0, 0, 0, 2)\n"
             + each("offer(0, 0, ?)", "IllegalArgument", "MIN", "-1", "0", "10001", "10002", "MAX")
             + "offer(0, 0, 10000) -> IllegalState; offer(0, 0, 9999) -> IllegalState; offer(0, 0, 1) -> 110; retract(0) -> 1");
+        // A seat goes from one to another for its ceiling, till that is above the highest price.
+        StringBuilder dear = new StringBuilder("buy(0, 0, 0, 1)\n");
+        int price = 100;
+        int owner = 0;
+        while (price * 11 / 10 <= 10000) {
+            price = price * 11 / 10;
+            dear.append("offer(" + owner + ", 0, " + price + ") -> " + price + "; ");
+            owner = 1 - owner;
+            dear.append("buy(" + owner + ", 0, 0, 1) -> 0\n");
+        }
+        int ceiling = price * 11 / 10;
+        Runs.opened(promise, "`price`: 1 to 10000: the highest one, below the ceiling", dear
+            + "offer(" + owner + ", 0, 10000) -> " + ceiling + "; buy(" + (1 - owner) + ", 0, 0, 1) -> 0; owner(0) -> "
+            + (1 - owner) + "; offer(" + (1 - owner) + ", 0, 10000) -> 11000; retract(0) -> 10000; takings() -> 100");
         Runs.opened(promise, "Throws `IllegalArgumentException` if price is out of range", """
             buy(0, 0, 0, 2); offer(0, 0, 0) -> IllegalArgument; offer(0, 0, 10001) -> IllegalArgument; state(0) -> SOLD
             offer(0, 5, 0) -> IllegalArgument; offer(1, 0, 10001) -> IllegalArgument; offer(0, 5, 10000) -> IllegalState
